@@ -853,7 +853,7 @@ public final class PolyDesk {
             return order(other) == 0;
         }
 
-        /** Compares the coefficients from the greatest power downward, so the degrees come first, as leads are positive. */
+        /** Compares the coefficients from power 5 downward; as leads are positive, lower degrees come first. */
         int order(Poly other) {
             for (int k = SIZE - 1; k >= 0; k--) {
                 if (coefficients[k] != other.coefficients[k]) {

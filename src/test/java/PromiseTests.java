@@ -215,6 +215,8 @@ public final class PromiseTests {
         due(faultOf("x^2-1x"), 5, "1 before a later x");
         due(faultOf("1000"), 3, "four digits");
         due(faultOf("9999x"), 3, "four digits before x");
+        due(faultOf("1001"), 3, "1001");
+        due(faultOf("1009x"), 3, "1009");
         due(faultOf("x^0"), 2, "power 0");
         due(faultOf("x^1"), 2, "power 1");
         due(faultOf("x^6"), 2, "power 6");
@@ -626,6 +628,13 @@ public final class PromiseTests {
         putText(x, 3, "-10");
         due(x.common(2, 3, 0), 0, "of numbers");
         due(written(x, 0), "5", "5");
+        putText(x, 0, "x^5-x");
+        putText(x, 1, "x^5-x");
+        putText(x, 0, "x^2-1");
+        due(x.common(0, 1, 3), 2, "fewer factors than before");
+        putText(x, 1, "x-1");
+        due(x.common(0, 1, 3), 1, "fewer factors than before");
+        due(written(x, 3), "x-1", "fewer factors than before");
         due(x.common(4, 0, 0), UNKNOWN, "no such slot");
         due(x.common(0, 4, 0), UNKNOWN, "no such slot");
         due(x.common(0, 0, 4), UNKNOWN, "no such slot");
@@ -756,7 +765,13 @@ public final class PromiseTests {
         due(x.parts(1, 2, 1), NONE, "a square of degree 2");
         due(x.parts(2, 2, 1), 5, "degree 5");
         due(x.parts(3, 5, 1), NONE, "a square of degree 2 in the integers");
+        due(x.parts(2, 2, 0), 1, "one of degree 5");
+        due(x.parts(2, 2, 0), 1, "one of degree 5 again");
         x = plain("x^4+1", "7x^3+7", "13x+1", "x");
+        due(x.parts(0, 11, 1), 22, "modulo 11");
+        due(x.parts(1, 11, 1), 12, "modulo 11");
+        due(x.parts(0, 7, 1), 22, "modulo 7");
+        due(x.parts(0, 13, 1), 22, "modulo 13");
         due(x.parts(0, 3, 1), 22, "two of degree 2");
         due(x.parts(0, 17, 1), OUTSIDE, "17 is too large");
         due(x.parts(1, 7, 0), NONE, "content is divisible by 7");
@@ -774,6 +789,9 @@ public final class PromiseTests {
         due(x.degrees(3), 0b111111, "all");
         due(x.degrees(4), UNKNOWN, "no such slot");
         due(x.degrees(-1), UNKNOWN, "negative slot");
+        x = plain("x^5+x^2+1", "x^5-x-1");
+        due(x.degrees(0), 0b100001, "irreducible of degree 5");
+        due(x.degrees(1), 0b100001, "irreducible of degree 5");
         x = plain("x", "x^5+x+1", "900x^2");
         due(x.degrees(0), 3, "degree 1");
         due(x.degrees(1), 0b101101, "2 and 3");
@@ -837,6 +855,10 @@ public final class PromiseTests {
         x.drawn(4, 99, 1);
         due(x.digest(), before, "nothing changed");
         due(factors(x, 0), "1*1,-1 1*1,1 1*1,0,1", "nothing changed");
+        x = plain("x^5+x^4");
+        due(x.drawn(4, 77, 0), 3, "behind a polynomial of degree 5");
+        due(x.drawn(4, 77, 1), 5, "behind a polynomial of degree 5");
+        due(x.drawn(2, 9, 0), 2, "two irreducible ones");
     }
 
     private static long afterDraws(long seed, int draws) {
@@ -885,6 +907,14 @@ public final class PromiseTests {
         due(x.slot(0, 5), 2, "restored again");
         due(x.count(5), 2, "observations");
         due(x.slot(0, 6), 6, "candidates");
+        putText(x, 0, "2x+3");
+        x.forget();
+        x.see(1, 1, true);
+        x.see(0, 2, false);
+        due(x.restore(), 1, "other observations");
+        due(x.slot(0, 6), 6, "candidates");
+        due(x.slot(1, 6), 27, "candidates");
+        due(factors(x, 0), "1*1,-1 1*1,1", "factors");
         type(x, "abc");
         due(x.restore(), 1, "with a page");
         due(x.count(6), 3, "the page stays");

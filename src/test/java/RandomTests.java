@@ -264,8 +264,14 @@ public final class RandomTests {
                 same("see(" + a + ", " + what + ", " + could + ")", desk.see(a, what, could), model.see(a, what, could));
             }
             case 21 -> {
-                if (below(4) == 0) {
+                if (random.nextBoolean()) {
                     same("forget()", desk.forget(), model.forget());
+                } else {
+                    int times = near(1, 4);
+                    int seed = below(5) == 0 ? near(0, 9) : below(Integer.MAX_VALUE);
+                    int what = near(0, 2);
+                    same("drawn(" + times + ", " + seed + ", " + what + ")",
+                            desk.drawn(times, seed, what), model.drawn(times, seed, what));
                 }
             }
             case 22 -> {
