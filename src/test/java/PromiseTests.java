@@ -1,13 +1,7 @@
 import java.util.List;
 
 /** For each promise of the document ordinary inputs, the edges that it names, and wrong inputs. */
-public final class PromiseTests {
-    private static final int NONE = -1, UNKNOWN = -101, OUTSIDE = -102, STATE = -103, FULL = -104;
-
-    private static int passed = 0;
-    private static int failed = 0;
-    private static String section = "";
-
+public final class PromiseTests extends TestBase {
     public static void main(String[] args) {
         examples();
         newObject();
@@ -40,81 +34,7 @@ public final class PromiseTests {
         count();
         digest();
         errorsInOrder();
-        System.out.println("PromiseTests: " + passed + " passed, " + failed + " failed");
-        System.exit(failed == 0 ? 0 : 1);
-    }
-
-    private static void due(long got, long want, String what) {
-        if (got == want) {
-            passed++;
-        } else {
-            failed++;
-            System.out.println(section + ": " + what + " answered " + got + ", due is " + want);
-        }
-    }
-
-    private static void due(String got, String want, String what) {
-        due(got.equals(want) ? 1 : 0, 1, what + " (" + got + " for " + want + ")");
-    }
-
-    // ---- helpers
-
-    private static void type(PolyDesk x, String text) {
-        for (char c : text.toCharArray()) {
-            x.letter(c);
-        }
-    }
-
-    private static PolyDesk deskOf(String kinds) {
-        PolyDesk x = new PolyDesk();
-        type(x, kinds);
-        x.desk();
-        return x;
-    }
-
-    private static int putText(PolyDesk x, int slot, String text) {
-        x.blank();
-        type(x, text);
-        return x.put(slot);
-    }
-
-    /** A plain desk of four slots, the first ones of which hold these polynomials. */
-    private static PolyDesk plain(String... texts) {
-        PolyDesk x = deskOf("ssss");
-        for (int i = 0; i < texts.length; i++) {
-            putText(x, i, texts[i]);
-        }
-        return x;
-    }
-
-    private static String written(PolyDesk x, int slot) {
-        StringBuilder result = new StringBuilder();
-        for (int i = 0; x.text(slot, i) >= 0; i++) {
-            result.append((char) x.text(slot, i));
-        }
-        return result.toString();
-    }
-
-    /** The factors as "2*1,-1" for a multiplicity 2 and x - 1, joined by blanks. */
-    private static String factors(PolyDesk x, int slot) {
-        StringBuilder result = new StringBuilder();
-        for (int i = 0; i < x.slot(slot, 4); i++) {
-            result.append(i > 0 ? " " : "").append(x.factor(slot, i, 1)).append('*');
-            int degree = x.factor(slot, i, 0);
-            for (int k = degree; k >= 0; k--) {
-                result.append(x.factor(slot, i, 2 + k) - 100000).append(k > 0 ? "," : "");
-            }
-            for (int k = degree + 1; k <= 5; k++) {
-                due(x.factor(slot, i, 2 + k), 100000, "coefficient above the degree");
-            }
-        }
-        return result.toString();
-    }
-
-    private static int faultOf(String text) {
-        PolyDesk x = new PolyDesk();
-        type(x, text);
-        return x.fault();
+        end("PromiseTests");
     }
 
     // ---- promises
@@ -532,10 +452,6 @@ public final class PromiseTests {
             }
         }
         return result.toString();
-    }
-
-    private static String factorsOf(String text) {
-        return factors(plain(text), 0);
     }
 
     private static void value() {
@@ -964,42 +880,10 @@ public final class PromiseTests {
         x.add(0, 0, 1);
         x.see(2, 1, false);
         type(x, "~ page");
-        due(x.digest(), byWords(x, 3, "~ page"), "three slots");
+        due(x.digest(), digestByWords(x, "~ page"), "three slots");
         due(x.digest(), x.digest(), "nothing changes");
         x.be(2, 0);
-        due(x.digest(), byWords(x, 3, "~ page"), "another kind");
-    }
-
-    private static long byWords(PolyDesk x, int slots, String page) {
-        long h = 1409;
-        for (int s = 0; s < slots; s++) {
-            for (int what = 0; what < 8; what++) {
-                h = 31 * h + x.slot(s, what);
-            }
-            if (x.slot(s, 1) == NONE) {
-                continue;
-            }
-            for (int power = 0; power < 6; power++) {
-                h = 31 * h + x.number(s, power);
-            }
-            for (int i = 0; i < x.slot(s, 4); i++) {
-                for (int what = 0; what < 8; what++) {
-                    h = 31 * h + x.factor(s, i, what);
-                }
-            }
-            h = 31 * h + x.degrees(s);
-            h = 31 * h + x.value(s, 3);
-            for (char c : written(x, s).toCharArray()) {
-                h = 31 * h + c;
-            }
-        }
-        for (char c : page.toCharArray()) {
-            h = 31 * h + c;
-        }
-        for (int what = 0; what < 8; what++) {
-            h = 31 * h + x.count(what);
-        }
-        return h;
+        due(x.digest(), digestByWords(x, "~ page"), "another kind");
     }
 
     /** Wrong calls of all kinds leave the digest as it was. */
