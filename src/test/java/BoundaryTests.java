@@ -201,6 +201,8 @@ public final class BoundaryTests extends TestBase {
         due(factorsOf("x^4+x^2-6"), "1*1,0,-2 1*1,0,3", "then the last ones");
         due(factorsOf("840x^2+58x+1"), "1*28,1 1*30,1", "leads that multiply to the number with the most divisors");
         due(factorsOf("x^2+58x+840"), "1*1,28 1*1,30", "ends that multiply to it");
+        due(factorsOf("x^2-840x+839"), "1*1,-839 1*1,-1", "the greatest divisor of an end");
+        due(factorsOf("997x^2+998x+1"), "1*1,1 1*997,1", "the greatest divisor of a lead");
         due(factorsOf("840x^4+58x^2+1"), "1*28,0,1 1*30,0,1", "leads of degree 2");
         due(factorsOf("840x^5+58x^3+x"), "1*1,0 1*28,0,1 1*30,0,1", "and x");
         due(factorsOf("x^4+58x^2+840"), "1*1,0,28 1*1,0,30", "ends of degree 2");
@@ -218,6 +220,12 @@ public final class BoundaryTests extends TestBase {
         due(x.common(0, 1, 3), 2, "5 times and twice");
         due(x.common(1, 0, 3), 2, "the other way round");
         due(x.common(0, 2, 3), 2, "only the factor that both have");
+        x = plain("x^3-x", "x^2-x", "x", "x-1");
+        due(x.common(0, 2, 3), 1, "fewer factors than before");
+        due(written(x, 3), "x", "fewer factors than before");
+        putText(x, 1, "x-1");
+        due(x.common(0, 1, 3), 1, "fewer factors than before");
+        due(written(x, 3), "x-1", "fewer factors than before");
         x = plain("x", "x-1");
         due(x.common(0, 1, 3), 0, "no factor");
         due(written(x, 3), "1", "no factor");
@@ -362,6 +370,8 @@ public final class BoundaryTests extends TestBase {
         says("The text of a polynomial consists of its terms, from the greatest power to the lowest one, those with "
                 + "coefficient 0 being left out.");
         due(written(plain("x^5-2x^3+7"), 0), "x^5-2x^3+7", "with gaps");
+        due(written(plain("x+1"), 0), "x+1", "a short first term");
+        due(written(plain("2x-1"), 0), "2x-1", "a short first term");
         due(faultOf("x^3+x^4"), 6, "a power that rises");
         due(faultOf("x^3+x^3"), 6, "a power twice");
         due(faultOf("7+x"), 1, "a number first");
@@ -1644,6 +1654,9 @@ public final class BoundaryTests extends TestBase {
         due(y.drawn(4, 44, 1), 9, "beside what is held");
         due(y.digest(), before, "nothing is changed");
         due(afterRestore(y), restored, "the image stays");
+        putText(y, 0, LONGEST);
+        due(y.drawn(4, 44, 0), 2, "behind a polynomial of degree 5");
+        due(y.drawn(4, 44, 1), 9, "behind a polynomial of degree 5");
     }
 
     // ---- promises 24 to 27
@@ -1719,6 +1732,11 @@ public final class BoundaryTests extends TestBase {
         }
         due(z.restore(), 2, "observations that were removed");
         due(z.digest(), before, "observations that were removed");
+        putText(z, 0, "-x^5+x^4");
+        z.image();
+        putText(z, 0, "x-1");
+        z.restore();
+        due(factors(z, 0), "1*1,-1 4*1,0", "multiplicities are restored");
         says("Returns the number of slots that are not empty then");
         PolyDesk w = deskOf("ssss");
         w.image();
