@@ -103,7 +103,20 @@ public final class LanguageTests {
         due(inside.length < 12, "classes inside");
         for (Class<?> one : inside) {
             due(Modifier.isStatic(one.getModifiers()) && !Modifier.isPublic(one.getModifiers()), one.getName());
+            inside(one);
         }
+    }
+
+    private static void inside(Class<?> one) {
+        for (Method method : one.getDeclaredMethods()) {
+            due(!FACE.contains(method.getName()), one.getName() + ": the name of a public method, " + method.getName());
+        }
+        int fields = 0;
+        for (Field field : one.getDeclaredFields()) {
+            fields += Modifier.isStatic(field.getModifiers()) ? 0 : 1;
+        }
+        due(fields <= 20, "fields of " + one.getName());
+        due(one.getDeclaredClasses().length == 0, "classes inside " + one.getName());
     }
 
     private static boolean isPrivate(Member member) {

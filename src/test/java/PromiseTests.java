@@ -3,7 +3,6 @@ import java.util.List;
 /** For each promise of the document ordinary inputs, the edges that it names, and wrong inputs. */
 public final class PromiseTests extends TestBase {
     public static void main(String[] args) {
-        examples();
         newObject();
         letter();
         blank();
@@ -38,42 +37,6 @@ public final class PromiseTests extends TestBase {
     }
 
     // ---- promises
-
-    private static void examples() {
-        section = "examples";
-        PolyDesk x = new PolyDesk();
-        due(x.letter(115), 1, "letter");
-        due(x.letter(102), 2, "letter");
-        due(x.desk(), 2, "desk");
-        type(x, "2x^2-");
-        due(x.letter(50), 6, "letter");
-        due(x.put(0), 2, "put");
-        due(x.slot(0, 2), 1002, "content");
-        due(x.slot(0, 4), 2, "factors");
-        due(x.factor(0, 1, 2), 100001, "factor");
-        due(x.parts(0, 3, 1), 11, "parts");
-        due(x.add(0, 0, 1), 2, "add");
-        due(x.text(1, 1), 94, "text");
-
-        x = deskOf("t");
-        due(putText(x, 0, "x^2+3x"), 1, "put");
-        due(x.number(0, 1), 1003, "number");
-        due(x.slope(0, 0), 0, "slope");
-        due(x.slope(0, 0), STATE, "slope");
-        due(x.degrees(0), 1, "degrees");
-        due(x.see(0, 1, true), 1, "see");
-        due(x.slot(0, 6), 4, "candidates");
-
-        x = deskOf("m");
-        type(x, "3x^2+1x");
-        due(x.fault(), 6, "fault");
-        due(x.put(0), STATE, "put");
-        due(x.blank(), 7, "blank");
-        due(x.slot(0, 7), 0, "question");
-        due(x.drawn(1, 7, 0), 1, "drawn");
-        due(x.as(0, 1), NONE, "as");
-        due(x.restore(), STATE, "restore");
-    }
 
     private static void newObject() {
         section = "1 new object";
